@@ -61,6 +61,7 @@ public final class RoomsThatChange {
   private int toldLength;
   private final int[] refusals = new int[REFUSAL_KINDS + 1];
   private final int[] bedsTaken = new int[MOST_ROOMS];
+  private final int[] apart = new int[STATES];
 
   public RoomsThatChange() {
   }
@@ -259,14 +260,15 @@ public final class RoomsThatChange {
   public int sure(int may) {
     if (!house.hasRooms(may)) return refuse(NOBODY);
     int fitting = house.fitting(may);
-    int many = Integer.bitCount(fitting);
-    if (many < 2) return 0;
+    if (Integer.bitCount(fitting) < 2) return 0;
+    int all = house.pairsOf(fitting);
     for (int state = 0; state < STATES; state++) {
-      if (house.unlikeOnes(fitting, state) == many) return 1;
+      apart[state] = all & house.pairsToldApart(state);
+      if (apart[state] == all) return 1;
     }
     for (int one = 0; one < STATES; one++) {
       for (int other = one + 1; other < STATES; other++) {
-        if (house.toldApart(fitting, one, other)) return 2;
+        if ((apart[one] | apart[other]) == all) return 2;
       }
     }
     return NONE;
@@ -600,18 +602,31 @@ public final class RoomsThatChange {
       return Integer.bitCount(seen);
     }
 
-    boolean toldApart(int roomBits, int one, int other) {
+    /** A bit for each two ROOMS that are both among those of the bits. */
+    int pairsOf(int roomBits) {
+      int pairs = 0;
+      int bit = 1;
       for (int i = 0; i < roomCount; i++) {
         for (int j = i + 1; j < roomCount; j++) {
-          boolean ask = (roomBits >> i & roomBits >> j & 1) == 1;
-          if (ask && sameOf(i, j, one) && sameOf(i, j, other)) return false;
+          if ((roomBits >> i & roomBits >> j & 1) == 1) pairs |= bit;
+          bit <<= 1;
         }
       }
-      return true;
+      return pairs;
     }
 
-    private boolean sameOf(int i, int j, int state) {
-      return rooms[i].firstNight(state, 0) == rooms[j].firstNight(state, 0);
+    /** The bits of those two ROOMS that make unlike ones of a STATE. */
+    int pairsToldApart(int state) {
+      int pairs = 0;
+      int bit = 1;
+      for (int i = 0; i < roomCount; i++) {
+        int made = rooms[i].firstNight(state, 0);
+        for (int j = i + 1; j < roomCount; j++) {
+          if (rooms[j].firstNight(state, 0) != made) pairs |= bit;
+          bit <<= 1;
+        }
+      }
+      return pairs;
     }
   }
 
@@ -888,8 +903,8 @@ public final class RoomsThatChange {
       for (int length = 0; length <= SEARCHED_NIGHTS; length++) {
         int rows = walk.begin(state, length);
         for (int k = 0; k < rows; k++) {
-          boolean better = foundLength < 0 || walk.price() < foundPrice;
-          if (better && guest.wishes(walk.end())) keep(length);
+          boolean had = guest.wishes(walk.end());
+          if (had && (foundLength < 0 || walk.price() < foundPrice)) keep(length);
           walk.advance();
         }
       }

@@ -255,6 +255,7 @@ public final class HouseTest {
     x.sleep(1, 4);
     x.sleep(2, 3);
     x.night();
+    C.due("TWO with one of STATE 0", twoWithNone(), 0);
     C.due("TWO alone: as PLAIN", x.guest(0, 0), 2);
     C.due("SWITCH of 2 and 0", x.guest(1, 0), 18);
     C.due("FREE", x.guest(2, 0), 21);
@@ -265,6 +266,14 @@ public final class HouseTest {
     x.sleep(0, 2);
     x.night();
     C.due("DAY odd: mark 2, 0 becomes 2", x.guest(0, 0), 2 + 18);
+  }
+
+  private static int twoWithNone() {
+    RoomsThatChange x = Checks.house("rt011121;g000333;g200333;");
+    x.sleep(0, 0);
+    x.sleep(1, 0);
+    x.night();
+    return x.guest(1, 0);
   }
 
   private static void undoInNights() {
@@ -418,14 +427,24 @@ public final class HouseTest {
     x.sleep(1, 1);
     x.trial(3, 4);
     C.due("image", x.image(), 1);
+    x.sleep(0, 0);
     x.night();
     Checks.tell(x, "rf000011;g222333;");
     x.trial(0, 1);
     x.row(3);
     x.letter('r');
     x.sleep(2, 2);
+    x.sleep(1, 0);
     x.night();
+    x.sleep(1, 1);
+    x.night();
+    x.sleep(1, 1);
+    x.stay(1);
+    x.night();
+    C.due("other LAST", x.room(0, 7), 2);
+    C.due("other state", x.guest(0, 0), 1);
     C.due("on", x.on(), 1);
+    C.due("state of 0", x.guest(0, 0), 2);
     C.due("rooms", x.count(0), 2);
     C.due("guests", x.count(1), 2);
     C.due("night", x.count(2), 1);

@@ -69,6 +69,7 @@ public final class MindTest {
     row("first of the shortest", x, 0, 0, 0, 1);
     row("first of the cheapest", x, 0, 0, 1, 3, 3);
     row("none needed", x, 2, 0, 0);
+    row("none needed, cheap", x, 2, 0, 1);
     row("never", x, 0, 1, 0);
     row("never, cheap", x, 0, 1, 1);
     row("shortest of the cheapest", Checks.house("rp012012;rp222219;rp022214;g000233;"), 0, 0, 1, 2);

@@ -246,7 +246,8 @@ public final class HouseEdgesTest {
     C.due("the first of two", Checks.tell(new RoomsThatChange(), "g000333;rp300011;g400000;"), -2008);
     C.due("out of range ahead of no room", Checks.tell(new RoomsThatChange(), "g000338;" + "g000333;".repeat(6)), -2000);
     C.due("no room ahead of out of range", Checks.tell(new RoomsThatChange(), "g000333;".repeat(6) + "g000338;"), -2040);
-    C.due("ROOMS take no room of GUESTS", Checks.tell(new RoomsThatChange(), "g000333;".repeat(5) + "rp000011;rp000011;"), 7);
+    C.due("ROOMS take no room of GUESTS",
+        Checks.tell(new RoomsThatChange(), "g000333;".repeat(5) + "rp000011;rp000011;"), 7);
   }
 
   /** Promise 3, "The letters become an INN, and are no more (with a FAULT neither)". */

@@ -20,10 +20,14 @@ public final class MindEdgesTest {
     becomesAt();
     bothAt();
     bothByKinds();
+    bothByOneBed();
+    bothInTheSecondNight();
+    bothOnceMore();
     bothRefused();
     asWentAt();
     alikeAt();
     changesAt();
+    changesOnceMore();
     neededAt();
     wasAt();
     wasRefused();
@@ -35,6 +39,7 @@ public final class MindEdgesTest {
     heirsAt();
     heirsRefused();
     bestOrderAt();
+    bestOfEachOrder();
     bestOrderRefused();
     C.end();
   }
@@ -61,6 +66,9 @@ public final class MindEdgesTest {
     undo.night();
     C.inMind("\"UNDO by his own row\": the NIGHT ahead of it is none", undo, x -> x.fewest(0, 0), 1);
     C.inMind("\"UNDO by his own row\": two NIGHTS", undo, x -> x.was(1, 1, 2, 0), 1);
+    RoomsThatChange between = Checks.house("ru012011;rf000011;");
+    C.inMind("\"UNDO by his own row\": another ROOM in the NIGHT ahead", between, x -> x.was(0, 1, 2, 0), 2);
+    C.inMind("\"UNDO by his own row\": another ROOM between", between, x -> x.was(0, 2, 3, 0), 1);
     RoomsThatChange heir = Checks.house("rh012011;rp022211;g000333;");
     C.inMind("\"HEIR by himself\": by 0 1 0 and 1 1 0", heir, x -> x.was(0, 0, 3, 0), 2);
   }
@@ -223,6 +231,39 @@ public final class MindEdgesTest {
     C.inMind("TWO, \"one alone\"", Checks.house("rt011121;rf000021;g000133;g000033;"), x -> x.both(0, 1), 1);
   }
 
+  /** Both must sleep in the same ROOM in one NIGHT: "two in one, if it has two BEDS". */
+  private static void bothByOneBed() {
+    C.inMind("in NIGHT 0, two BEDS", Checks.house("rp011221;rp002221;g000233;g000233;"), x -> x.both(0, 1), 2);
+    C.inMind("in NIGHT 0, one BED", Checks.house("rp011211;rp002221;g000233;g000233;"), x -> x.both(0, 1), -9);
+    C.inMind("in NIGHT 1, one BED", Checks.house("rp011221;rp002211;g000233;g000233;"), x -> x.both(0, 1), -9);
+    C.inMind("DAY, two BEDS", Checks.house("rf000021;rd012021;g000133;g000133;"), x -> x.both(0, 1), 2);
+    C.inMind("DAY, one BED", Checks.house("rf000021;rd012011;g000133;g000133;"), x -> x.both(0, 1), -9);
+  }
+
+  /** Each can only come about in NIGHT 1, by what was in NIGHT 0; told by both and the other way about. */
+  private static void bothInTheSecondNight() {
+    second("TWO: the other's MARK", "rt000021;rs000011;rf000011;", "g010203;", "g220123;", 2);
+    second("TWO: one alone", "rt022211;rs000011;rf000011;", "g010203;", "g100103;", 2);
+    second("HEIR of the other who slept alone", "rh000011;rf000011;", "g100233;", "g200033;", 2);
+    second("HEIR: \"the table's, if none did\"", "rh022221;rs000021;", "g010203;", "g010203;", 2);
+    second("HEIR: of none who slept elsewhere", "rh022211;rs000021;", "g010203;", "g110113;", 2);
+    second("UNDO: \"as he was in that evening\"", "ru012011;rp112011;", "g000003;", "g100123;", 2);
+    second("UNDO: the other slept in it, not he", "ru012011;rs000011;", "g010203;", "g010113;", 2);
+  }
+
+  private static void second(String name, String rooms, String one, String other, int want) {
+    C.inMind(name, Checks.house(rooms + one + other), x -> x.both(0, 1), want);
+    C.inMind(name + ", told the other way", Checks.house(rooms + one + other), x -> x.both(1, 0), want);
+    C.inMind(name + ", the other is the lesser", Checks.house(rooms + other + one), x -> x.both(0, 1), want);
+  }
+
+  /** One call leaves nothing to the next. */
+  private static void bothOnceMore() {
+    RoomsThatChange x = Checks.house("rf000021;" + STEPS, "g000002;g000001;g000200;g000100;");
+    int[][] due = {{0, 1, 2}, {2, 3, 2}, {1, 3, 1}, {2, 0, 2}, {3, 1, 1}, {0, 1, 2}};
+    for (int[] of : due) C.due("both of " + of[0] + " and " + of[1], x.both(of[0], of[1]), of[2]);
+  }
+
   /** "-1 (one twice, too)". */
   private static void bothRefused() {
     C.refused("both \"-1\": one", steps(), x -> x.both(5, 0), -1);
@@ -280,6 +321,20 @@ public final class MindEdgesTest {
     C.refused("changes \"-6 2\", the greatest int", steps(), x -> x.changes(GREATEST), -6);
   }
 
+  /** One call leaves nothing to the next, nor does a house that had more. */
+  private static void changesOnceMore() {
+    RoomsThatChange x = Checks.house("rf000011;");
+    x.image();
+    Checks.tell(x, STEPS);
+    C.due("changes 2 of more", x.changes(2), 10);
+    C.due("needed of more", x.needed(), 14);
+    C.due("changes 1 of more", x.changes(1), 4);
+    C.due("changes 0 of more", x.changes(0), 1);
+    x.on();
+    C.due("needed of fewer", x.needed(), 0);
+    C.due("changes 2 of fewer", x.changes(2), 1);
+  }
+
   /** Promise 18; Terms: "ROOMS (bits) without which those of 0 .. 2 are fewer". */
   private static void neededAt() {
     C.inMind("without ROOMS", new RoomsThatChange(), RoomsThatChange::needed, 0);
@@ -295,7 +350,7 @@ public final class MindEdgesTest {
     C.inMind("only ahead of the other", Checks.house("rs000011;rp000011;rf000011;"), RoomsThatChange::needed, 3);
   }
 
-  /** Promise 19; Terms: "of rows of n ROOMS (1 .. 3) ...: how many; ROOMS that are in all of these (bits; 0, if there are none)". */
+  /** Promise 19; Terms: "rows of n ROOMS (1 .. 3)", "ROOMS that are in all of these (bits; 0, if there are none)". */
   private static void wasAt() {
     String free = "rf000011;";
     int[] due = {6, 36, 216};
@@ -383,7 +438,7 @@ public final class MindEdgesTest {
     C.inMind("\"of several the least\": none tells", Checks.house("rp012011;rp012012;"), x -> x.next(3), 0);
     C.inMind("the greatest MARKS tell", Checks.house("rp200011;rf000011;rp200111;"), x -> x.next(7), 18);
     C.inMind("\"most unlike ones\": two of 0, three of 1", Checks.house("rp010211;rp002211;rf000011;"), x -> x.next(7), 1);
-    C.inMind("\"NIGHT 0\": DAY is as FREE", Checks.house("rd012011;rf000011;"), x -> x.next(3), 0);
+    C.inMind("\"NIGHT 0\": DAY is as FREE", Checks.house("rd002211;rf000011;"), x -> x.next(3), 0);
     C.inMind("\"-9\" without ROOMS", new RoomsThatChange(), x -> x.next(0), -9);
   }
 
@@ -399,6 +454,12 @@ public final class MindEdgesTest {
     C.inMind("3 are too many", Checks.house(three), x -> x.sure(15), -9);
     C.inMind("\"-9\": two are the same", Checks.house("rp012011;rt012029;rf000011;"), x -> x.sure(7), -9);
     C.inMind("\"NIGHT 0\": DAY is as FREE", Checks.house("rd012011;rf000011;"), x -> x.sure(3), -9);
+    C.inMind("\"NIGHT 0\": FREE is as DAY", Checks.house("rf000011;rd012011;"), x -> x.sure(3), -9);
+    C.inMind("STATE 0 alone tells", Checks.house("rp011211;rp111211;rp211211;rf000011;"), x -> x.sure(15), 1);
+    C.inMind("STATE 26 alone tells", Checks.house("rp001011;rp101011;rp201011;rf000011;"), x -> x.sure(15), 1);
+    RoomsThatChange same = Checks.house("rp012011;rt012029;rf000011;rf000011;");
+    C.inMind("\"all that fit\": one of the same may not be", same, x -> x.sure(5), 1);
+    C.inMind("\"all that fit\": the other may not be", same, x -> x.sure(10), 1);
     C.inMind("\"0\" without ROOMS", new RoomsThatChange(), x -> x.sure(0), 0);
     C.inMind("six by one", Checks.house("rf000011;rp012011;rp020111;rp112011;rp120111;rp212011;"), x -> x.sure(63), 1);
   }
@@ -423,7 +484,7 @@ public final class MindEdgesTest {
     return Checks.house("rh000013;rp000011;", "g100033;g200133;g000233;g111033;g222133;");
   }
 
-  /** Promise 24; Terms: "in a ROOM of KIND h (NIGHT 0 the first; nobody was LAST): how many of these have their WISH then". */
+  /** Promise 24; Terms: "(NIGHT 0 the first; nobody was LAST): how many of these have their WISH then". */
   private static void heirsAt() {
     C.inMind("none of none", line(), x -> x.heirs(0, 0, 0), 0);
     C.inMind("none, whatever the digits", line(), x -> x.heirs(0, 0, 99), 0);
@@ -455,7 +516,8 @@ public final class MindEdgesTest {
     C.refused("heirs \"one that there is not\", the last", line(), x -> x.heirs(0, 5, 93210), -1);
     C.refused("heirs \"one that there is not\", below", line(), x -> x.heirs(0, 1, -1), -1);
     C.refused("heirs \"one twice\"", line(), x -> x.heirs(0, 2, 11), -1);
-    C.refused("heirs \"one twice\", the first and the last", line(), x -> x.heirs(0, 5, 3210 + 30000), -1);
+    C.refused("heirs \"one twice\", the last two", line(), x -> x.heirs(0, 5, 33210), -1);
+    C.refused("heirs \"one twice\", the first and the last", line(), x -> x.heirs(0, 5, 3210), -1);
     C.refused("heirs \"one twice\": 0 by digits that lack", line(), x -> x.heirs(0, 4, 10), -1);
     C.refused("heirs of nobody", Checks.house("rh000011;"), x -> x.heirs(0, 1, 0), -1);
     C.refused("heirs: -1 ROOM is told ahead of -4", line(), x -> x.heirs(2, -1, 99), -1);
@@ -485,6 +547,21 @@ public final class MindEdgesTest {
     x.night();
     C.due("\"nobody was LAST\": GUEST 0 is 0 now", x.guest(0, 0), 0);
     order("as they are now", x, 2, 1, 0);
+  }
+
+  /** A line of five that has but one best order: each of the 120 is that one, if they are told so. */
+  private static void bestOfEachOrder() {
+    String[] line = {"g100033;", "g100133;", "g000133;", "g200033;", "g200233;"};
+    for (int code = 0; code < 3125; code++) {
+      int[] order = {code / 625, code / 125 % 5, code / 25 % 5, code / 5 % 5, code % 5};
+      String[] told = new String[5];
+      int seen = 0;
+      for (int i = 0; i < 5; i++) {
+        told[order[i]] = line[i];
+        seen |= 1 << order[i];
+      }
+      if (seen == 31) order("one of 120", Checks.house("rh000011;", String.join("", told)), 5, order);
+    }
   }
 
   private static void order(String name, RoomsThatChange x, int most, int... guests) {

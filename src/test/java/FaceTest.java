@@ -45,8 +45,7 @@ public final class FaceTest {
     C.due("one constructor", c.getDeclaredConstructors().length, 1);
     Constructor<?> made = c.getDeclaredConstructors()[0];
     C.holds("public, of nothing", Modifier.isPublic(made.getModifiers()) && made.getParameterCount() == 0);
-    Set<String> open = new TreeSet<>();
-    for (Method m : c.getDeclaredMethods()) if (Modifier.isPublic(m.getModifiers())) open.add(m.getName());
+    Set<String> open = openNames();
     for (Method m : c.getDeclaredMethods()) {
       if (Modifier.isPublic(m.getModifiers())) continue;
       C.holds(m.getName() + " is private", Modifier.isPrivate(m.getModifiers()));
@@ -56,6 +55,14 @@ public final class FaceTest {
       C.holds(f.getName() + " is private", Modifier.isPrivate(f.getModifiers()));
       if (Modifier.isStatic(f.getModifiers())) C.holds(f.getName() + " is final", Modifier.isFinal(f.getModifiers()));
     }
+  }
+
+  private static Set<String> openNames() {
+    Set<String> open = new TreeSet<>();
+    for (Method m : RoomsThatChange.class.getDeclaredMethods()) {
+      if (Modifier.isPublic(m.getModifiers())) open.add(m.getName());
+    }
+    return open;
   }
 
   private static void nested() {
@@ -70,7 +77,10 @@ public final class FaceTest {
         else C.holds(f.getName() + " is final", Modifier.isFinal(f.getModifiers()));
       }
       C.holds(c.getName() + " has some twenty fields at most", fields <= 20);
-      for (Method m : c.getDeclaredMethods()) C.holds(m.getName() + " has at most seven parameters", m.getParameterCount() <= 7);
+      for (Method m : c.getDeclaredMethods()) {
+        C.holds(m.getName() + " has at most seven parameters", m.getParameterCount() <= 7);
+        C.holds(m.getName() + " has a name of its own", !openNames().contains(m.getName()));
+      }
     }
   }
 
@@ -85,6 +95,13 @@ public final class FaceTest {
     C.holds("no lambda", !code.contains("->"));
     C.holds("no method reference", !code.contains("::"));
     C.holds("no Exact", !Pattern.compile("Exact\\b").matcher(code).find());
+    Matcher methods = Pattern.compile("(?ms)^( {2,4})(?:private |public )?[\\w\\[\\] ]+\\(.*?^\\1\\}").matcher(code);
+    int bodies = 0;
+    while (methods.find()) {
+      bodies++;
+      C.holds("some sixty lines at most: " + methods.group(), methods.group().lines().count() <= 60);
+    }
+    C.holds("methods were found", bodies > 30);
     Matcher imports = Pattern.compile("import ([^;]+);").matcher(code);
     while (imports.find()) C.holds("import of " + imports.group(1), imports.group(1).equals("java.util.Arrays"));
   }
